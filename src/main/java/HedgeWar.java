@@ -169,28 +169,11 @@ public final class HedgeWar {
     }
 
     public int year(int n) {
-        int refusal = refusalOfYears(n);
-        if (refusal != 0) {
-            return refusal;
-        }
-        past.remember(now);
-        for (int k = 0; k < n; k++) {
-            passYear();
-        }
-        return Integer.bitCount(now.ownedByOne);
+        return passYears(n, false);
     }
 
     public int drift(int n) {
-        int refusal = refusalOfYears(n);
-        if (refusal != 0) {
-            return refusal;
-        }
-        past.remember(now);
-        for (int k = 0; k < n; k++) {
-            sowByDraws();
-            passYear();
-        }
-        return Integer.bitCount(now.ownedByOne);
+        return passYears(n, true);
     }
 
     public int undo() {
@@ -412,17 +395,27 @@ public final class HedgeWar {
         return ((now.hedges | ground.paths) & place) == 0;
     }
 
-    private int refusalOfYears(int n) {
+    private int passYears(int n, boolean byDraws) {
         if (n < 1 || n > MOST_YEARS_A_CALL) {
             return OUTSIDE;
         }
         if (ground.fields == 0) {
             return NOT;
         }
-        return now.years > LAST_YEAR ? FULL : 0;
+        if (now.years > LAST_YEAR) {
+            return FULL;
+        }
+        past.remember(now);
+        for (int k = 0; k < n; k++) {
+            if (byDraws) {
+                sowByDraws();
+            }
+            passOneYear();
+        }
+        return Integer.bitCount(now.ownedByOne);
     }
 
-    private void passYear() {
+    private void passOneYear() {
         now.growOlder(ground);
         now.ownedByOne = ground.ownedAfterMarch(now.shutEdges(ground), now.ofOne, now.ownedByOne);
         now.years++;
@@ -471,7 +464,8 @@ public final class HedgeWar {
 
     /**
      * The land with a field f that the fewest slips cut off, of these the smallest; 0 if none can be. At most nine
-     * fields are not at the rim, so all lands are tried.
+     * fields are not at the rim, so all lands are tried. The smallest of the cheapest lands is a part of the others,
+     * so as a number it comes first.
      */
     private int cheapestLand(int f, long standing, long slips) {
         int start = 1 << f;
@@ -484,12 +478,10 @@ public final class HedgeWar {
         int fewest = MOST_EDGES + 1;
         int with = 0;
         for (int k = 0; k < lands; k++) {
-            int land = start | with;
-            long needed = ground.edgesRound(land) & ~standing;
+            long needed = ground.edgesRound(start | with) & ~standing;
             int count = Long.bitCount(needed);
-            boolean better = count < fewest || count == fewest && Integer.bitCount(land) < Integer.bitCount(best);
-            if ((needed & ~slips) == 0 && better) {
-                best = land;
+            if ((needed & ~slips) == 0 && count < fewest) {
+                best = start | with;
                 fewest = count;
             }
             // The next subset of inner, in rising order.
@@ -583,12 +575,12 @@ public final class HedgeWar {
                 }
             }
             for (int f = 0; f < fields; f++) {
-                if ((withRight & 1 << f) != 0) {
+                if ((withRight & (1 << f)) != 0) {
                     addEdge(f, f + 1, 1L << f);
                 }
             }
             for (int f = 0; f < fields; f++) {
-                if ((withBelow & 1 << f) != 0) {
+                if ((withBelow & (1 << f)) != 0) {
                     addEdge(f, f + columns, 1L << (BELOW + f));
                 }
             }
@@ -647,7 +639,7 @@ public final class HedgeWar {
             for (int y = 0; y <= MOST_YEARS_AGO; y++) {
                 int alike = 0;
                 for (int z = 0; z <= MOST_YEARS_AGO; z++) {
-                    if ((years >> z & 1) != 0 && heightOn(e, y) == heightOn(e, z)) {
+                    if ((years & (1 << z)) != 0 && heightOn(e, y) == heightOn(e, z)) {
                         alike++;
                     }
                 }
@@ -660,8 +652,8 @@ public final class HedgeWar {
         int oneStepFrom(int some, long shut) {
             int right = withRight & ~(int) shut;
             int below = withBelow & ~(int) (shut >>> BELOW);
-            int sideways = (some & right) << 1 | some >>> 1 & right;
-            int upAndDown = (some & below) << width | some >>> width & below;
+            int sideways = ((some & right) << 1) | ((some >>> 1) & right);
+            int upAndDown = ((some & below) << width) | ((some >>> width) & below);
             return some | sideways | upAndDown;
         }
 
@@ -679,9 +671,9 @@ public final class HedgeWar {
 
         /** The edges between fields of which just one is in a set. */
         long edgesRound(int set) {
-            int right = (set ^ set >>> 1) & withRight;
-            int below = (set ^ set >>> width) & withBelow;
-            return (long) below << BELOW | right;
+            int right = (set ^ (set >>> 1)) & withRight;
+            int below = (set ^ (set >>> width)) & withBelow;
+            return ((long) below << BELOW) | right;
         }
 
         int shutInBy(int land, long ofOne) {
@@ -737,7 +729,7 @@ public final class HedgeWar {
         }
 
         int ownerOf(int f) {
-            return ownedByOne >> f & 1;
+            return (ownedByOne >> f) & 1;
         }
 
         void setHedge(int e, long place, int estate, int age) {

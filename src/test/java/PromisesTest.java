@@ -104,9 +104,31 @@ public final class PromisesTest {
         due("3: hedge", x.edge(0, 3), 99);
         due("3: soil twice", Check.tell(x, "g2 2 1;s0 2;s0 3;"), 4);
         due("3: the later soil", x.field(0, 0), 3);
+        due("3: least soil", Check.tell(x, "g2 2 1;s0 0;p0;e1;h1 1 1;"), 4);
+        due("3: soil 0", x.field(0, 0), 0);
+        due("3: another one", Check.tell(x, "g2 3 1;"), 6);
+        due("3: its paths", x.edge(0, 6), 0);
+        due("3: its hedges", x.edge(1, 2), NONE);
+        due("3: its estates", x.told(8), 0);
+        x.plant(1, 0);
+        due("3: estate of a slip", x.edge(1, 2), 0);
         due("3: only blanks", Check.tell(x, "   "), 0);
-        due("3: no fields", x.told(2), 0);
+        for (int what = 0; what <= 12; what++) {
+            due("3: no fields, told(" + what + ")", x.told(what), 0);
+        }
         due("3: no edges", x.edge(0, 0), UNKNOWN);
+        Check.tell(x, SMALL);
+        due("3: empty again", x.parish(), 0);
+        due("3: W", x.told(0), 0);
+        due("3: no year", x.year(1), NOT);
+        StringBuilder longest = new StringBuilder(SMALL);
+        while (longest.length() < 236) {
+            longest.append(' ');
+        }
+        due("3: 240 letters", Check.tell(x, longest + "s0 9"), -11);
+        due("4: at the end", x.fault(), 240);
+        due("3: 240 letters, good", Check.tell(x, longest + "e 0;"), 9);
+        due("3: estate", x.told(8), 1);
     }
 
     private static void parishForgets() {
@@ -116,6 +138,7 @@ public final class PromisesTest {
         x.year(2);
         x.root(0, 4);
         x.write(0, 0);
+        x.keep(0);
         x.keep(1);
         x.plant(0, 0);
         due("3: fault", Check.tell(x, "g2 2 0;x"), -11);
@@ -138,7 +161,8 @@ public final class PromisesTest {
         due("3: roots", x.told(10), 0);
         due("3: book", x.told(11), 0);
         due("3: undo", x.undo(), NOT);
-        due("3: images", x.goBack(1), NOT);
+        due("3: image 0", x.goBack(0), NOT);
+        due("3: image 1", x.goBack(1), NOT);
         due("3: seed", x.seed(0), 77);
     }
 
@@ -189,6 +213,11 @@ public final class PromisesTest {
         fault("g2 2 0;h0 0 1;p0;", 4, 15);
         fault("g2 2 0;h0 0 1;h0 1 1;", 4, 15);
         HedgeWar x = new HedgeWar();
+        for (String longer : new String[] {"g2 2 0;", "g2 2 00;", "g2 2 0 ;"}) {
+            Check.tell(x, longer);
+            due("3: shorter than '" + longer + "'", Check.tell(x, "g2 2 0"), -11);
+            due("4: shorter than '" + longer + "'", x.fault(), 6);
+        }
         Check.tell(x, "x");
         due("4: a fault", x.fault(), 0);
         Check.tell(x, SMALL);
@@ -568,8 +597,8 @@ public final class PromisesTest {
         due("18: 0 shuts it", other.turns(0, 3), 9);
         // Two fields that 1 can shut: each estate gets its turn at one.
         HedgeWar two = Check.told("g5 3 4;h4 1 9;h5 1 9;h13 1 9;h6 1 9;h7 1 9;h15 1 9;");
-        due("18: one each", two.turns(1, 4), 1);
-        due("18: 0 first", two.turns(0, 4), 14);
+        due("18: one each", two.turns(1, 3), 1);
+        due("18: 0 first", two.turns(0, 3), 14);
         due("18: nothing changes", two.told(6), 6);
         due("18: no estate", x.turns(2, 0), UNKNOWN);
         due("18: no estate", x.turns(-1, 1), UNKNOWN);
@@ -691,6 +720,9 @@ public final class PromisesTest {
         due("25: the first", x.judge(), 2);
         x.year(1);
         due("25: as it is now", x.judge(), 3);
+        x.tear();
+        x.write(8, 0);
+        due("25: the first of all", x.judge(), 0);
     }
 
     private static void seed() {
