@@ -8,21 +8,21 @@ public final class AnyCallsTest {
     private static final String[] TEXTS = {"", "g2 2 0;", "g5 5 9;", "g2 5 4;h0 0 9;h4 1 9;", "g5 2 3;p0;e9;",
         "g4 4 5;h3 1 9;h5 1 9;h13 1 9;h14 1 9;h21 1 9;h22 1 9;h8 1 9;h6 1 9;"};
 
+    /** An object is used for 512 calls at most: so many with any arguments, and two prints with the text's letters. */
+    private static final int CALLS = 100, RUNS = 2000;
+
     public static void main(String[] args) {
-        for (int run = 0; run < 200; run++) {
+        for (int run = 0; run < RUNS; run++) {
             Random random = new Random(run);
             HedgeWar x = new HedgeWar();
             Check.tell(x, TEXTS[run % TEXTS.length]);
-            for (int k = 0; k < 500; k++) {
-                int which = random.nextInt(27);
-                long before = print(x);
-                int answer = call(x, which, random);
-                if (answer <= HedgeWar.UNKNOWN) {
-                    CHECK.due("run " + run + ": refused, changed by call " + which, print(x), before);
-                }
-                if (random.nextInt(100) == 0) {
-                    Check.tell(x, TEXTS[random.nextInt(TEXTS.length)]);
-                }
+            for (int k = random.nextInt(CALLS); k > 0; k--) {
+                call(x, random.nextInt(27), random);
+            }
+            long before = print(x);
+            int which = random.nextInt(27);
+            if (call(x, which, random) <= HedgeWar.UNKNOWN) {
+                CHECK.due("run " + run + ": refused, changed by call " + which, print(x), before);
             }
         }
         CHECK.end();
@@ -65,21 +65,18 @@ public final class AnyCallsTest {
         }
     }
 
-    /** One number out of all that can be asked without a change. */
+    /** One number out of what can be asked without a change and does not follow from the rest. */
     private static long print(HedgeWar x) {
         long sum = x.fault();
         for (int what = 0; what <= 12; what++) {
             sum = sum * 31 + x.told(what);
         }
-        for (int f = 0; f < x.told(2); f++) {
-            for (int what = 0; what <= 3; what++) {
-                sum = sum * 31 + x.field(f, what);
-            }
+        int fields = x.told(2), edges = x.told(3);
+        for (int f = 0; f < fields; f++) {
+            sum = sum * 31 + x.field(f, 1);
         }
-        for (int e = 0; e < x.told(3); e++) {
-            for (int what = 0; what <= 7; what++) {
-                sum = sum * 31 + x.edge(e, what);
-            }
+        for (int e = 0; e < edges; e++) {
+            sum = ((sum * 31 + x.edge(e, 2)) * 31 + x.edge(e, 3)) * 31 + x.edge(e, 5);
         }
         int seed = x.seed(0);
         x.seed(seed);

@@ -3,12 +3,15 @@ import java.util.Random;
 /** Long runs of drawn calls on the class and on the plain model side by side. */
 public final class ModelTest {
     private static final Check CHECK = new Check();
-    private static final int RUNS = 300, CALLS = 400;
+    private static final int RUNS = 1200, TEXTS = 4000;
+    /** An object is used for so many calls at most. */
+    private static final int CALLS = 512;
 
     private final Random random;
     private final HedgeWar x = new HedgeWar();
     private final PlainModel m = new PlainModel();
     private final String name;
+    private int calls = 0;
 
     /** How often what the document is about came up: a run that never shuts anything in tests little. */
     private static int shutIns = 0, deciders = 0, cuts = 0, gains = 0, faults = 0, steps = 0;
@@ -22,7 +25,7 @@ public final class ModelTest {
         for (int k = 0; k < RUNS; k++) {
             new ModelTest(k).run();
         }
-        for (int k = 0; k < 6000; k++) {
+        for (int k = 0; k < TEXTS; k++) {
             new ModelTest(RUNS + k).readOne();
         }
         System.out.println("shut in " + shutIns + ", deciding " + deciders + ", cuts " + cuts + ", turns that gain "
@@ -33,6 +36,7 @@ public final class ModelTest {
     }
 
     private void due(String call, int got, int want) {
+        calls++;
         CHECK.due(name + call, got, want);
     }
 
@@ -42,18 +46,35 @@ public final class ModelTest {
 
     private void run() {
         tellNew(goodText());
-        for (int k = 0; k < CALLS; k++) {
-            if (upTo(100) == 0) {
-                tellNew(upTo(2) == 0 ? spoilt(goodText()) : goodText());
+        while (calls < CALLS - 40) {
+            String text = upTo(2) == 0 ? spoilt(goodText()) : goodText();
+            if (upTo(100) == 0 && text.length() < CALLS - 40 - calls) {
+                tellNew(text);
             }
             oneCall();
         }
-        compareAll();
+        while (calls < CALLS) {
+            compareOne();
+        }
     }
 
     private void readOne() {
         tellNew(upTo(4) == 0 ? goodText() : spoilt(goodText()));
-        compareAll();
+        for (int what = 0; what <= 12; what++) {
+            due("told " + what, x.told(what), m.told(what));
+        }
+        for (int f = 0; f < m.told(2); f++) {
+            due("soil " + f, x.field(f, 0), m.field(f, 0));
+            due("estate " + f, x.field(f, 1), m.field(f, 1));
+        }
+        for (int e = 0; e < m.told(3); e++) {
+            due("hedge " + e, x.edge(e, 2), m.edge(e, 2));
+            due("age " + e, x.edge(e, 3), m.edge(e, 3));
+            due("path " + e, x.edge(e, 6), m.edge(e, 6));
+        }
+        while (calls < CALLS) {
+            compareOne();
+        }
     }
 
     private void tellNew(String text) {
@@ -181,7 +202,9 @@ public final class ModelTest {
                 compareImage(about(2));
                 break;
             default:
-                compareAll();
+                for (int k = 0; k < 12; k++) {
+                    compareOne();
+                }
         }
     }
 
@@ -231,24 +254,28 @@ public final class ModelTest {
         }
     }
 
-    private void compareAll() {
-        for (int what = -1; what <= 13; what++) {
-            due("told " + what, x.told(what), m.told(what));
+    /** One answer of those that tell how all is. */
+    private void compareOne() {
+        int e = about(m.told(3)), f = about(m.told(2));
+        int what = about(13);
+        switch (upTo(8)) {
+            case 0: case 1:
+                due("told " + what, x.told(what), m.told(what));
+                break;
+            case 2: case 3:
+                int of = about(4);
+                due("field " + f + " " + of, x.field(f, of), m.field(f, of));
+                shutIns += of == 3 && m.field(f, 3) >= 0 ? 1 : 0;
+                break;
+            case 4: case 5:
+                int on = about(8);
+                due("edge " + e + " " + on, x.edge(e, on), m.edge(e, on));
+                break;
+            case 6:
+                due("tallIn " + e, x.tallIn(e), m.tallIn(e));
+                break;
+            default:
+                due("judge", x.judge(), m.judge());
         }
-        for (int f = -1; f <= m.told(2); f++) {
-            for (int what = -1; what <= 4; what++) {
-                due("field " + f + " " + what, x.field(f, what), m.field(f, what));
-            }
-            shutIns += m.field(f, 3) >= 0 ? 1 : 0;
-        }
-        for (int e = -1; e <= m.told(3); e++) {
-            for (int what = -1; what <= 8; what++) {
-                due("edge " + e + " " + what, x.edge(e, what), m.edge(e, what));
-            }
-            due("tallIn " + e, x.tallIn(e), m.tallIn(e));
-        }
-        due("judge", x.judge(), m.judge());
-        due("plantedAgo", x.plantedAgo(), m.plantedAgo());
-        due("lookAt", x.lookAt(), m.lookAt());
     }
 }

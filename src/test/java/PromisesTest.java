@@ -121,14 +121,12 @@ public final class PromisesTest {
         due("3: empty again", x.parish(), 0);
         due("3: W", x.told(0), 0);
         due("3: no year", x.year(1), NOT);
-        StringBuilder longest = new StringBuilder(SMALL);
-        while (longest.length() < 236) {
-            longest.append(' ');
-        }
-        due("3: 240 letters", Check.tell(x, longest + "s0 9"), -11);
-        due("4: at the end", x.fault(), 240);
-        due("3: 240 letters, good", Check.tell(x, longest + "e 0;"), 9);
-        due("3: estate", x.told(8), 1);
+        String longest = SMALL + " ".repeat(236 - SMALL.length());
+        HedgeWar full = new HedgeWar();
+        due("3: 240 letters", Check.tell(full, longest + "s0 9"), -11);
+        due("4: at the end", full.fault(), 240);
+        due("3: 240 letters, good", Check.tell(full, longest + "e 0;"), 9);
+        due("3: estate", full.told(8), 1);
     }
 
     private static void parishForgets() {
