@@ -81,6 +81,7 @@ public final class LanguageTest {
             }
             dueIs(kind + " has twenty fields at most", fields <= 20);
             for (Method method : kind.getDeclaredMethods()) {
+                dueIs(method + " has a name of its own", !(" " + FACE).contains(" " + method.getName() + "("));
                 dueIs(method + " has seven parameters at most", method.getParameterCount() <= 7);
             }
         }

@@ -332,6 +332,9 @@ public final class ParishTermsTest {
         fault("g2 2 0;p0;p0000;", 2, 11);
         fault("g2 2 0;h0 0 1;h0000 0 1;", 2, 15);
         fault("g g2 2 0;", 1, 2);
+        fault("0000", 1, 0);
+        fault("g2 2 0 0000;", 1, 7);
+        fault("g2 2 0;9999", 1, 7);
         fault("g2 2 0;e g2", 1, 9);
     }
 
@@ -417,11 +420,12 @@ public final class ParishTermsTest {
             due("slips", x.slips(0, 4, 1, NONE), 0);
             due("acres", x.year(1), 0);
             due("edges", x.told(3), 12);
-            due("behind '" + text + "', ringed", Check.tell(x, "g3 3 4;h2 1 9;h3 1 9;h7 1 9;"), 9);
-            due("0's slip is 0's", x.turns(0, 3), 9);
-            due("1's slip is 1's", x.turns(1, 3), 1);
-            due("tall in", x.tallIn(10), 3);
-            due("no path", x.edge(10, 6), 0);
+            HedgeWar gap = Check.told(text);
+            due("behind '" + text + "', with a gap", Check.tell(gap, "g3 3 4;h2 1 9;h3 1 9;h7 1 9;"), 9);
+            due("0's slip is 0's", gap.turns(0, 3), 9);
+            due("1's slip is 1's", gap.turns(1, 3), 1);
+            due("tall in", gap.tallIn(10), 3);
+            due("no path", gap.edge(10, 6), 0);
         }
     }
 

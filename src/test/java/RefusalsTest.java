@@ -65,10 +65,7 @@ public final class RefusalsTest {
 
     private static HedgeWar withFullText() {
         HedgeWar x = busy();
-        int letters = x.feed(';');
-        while (letters < 240) {
-            letters = x.feed(' ');
-        }
+        Check.feedAll(x, ";" + " ".repeat(233));
         return x;
     }
 
@@ -85,7 +82,7 @@ public final class RefusalsTest {
 
     private static HedgeWar withSixRoots() {
         HedgeWar x = busy();
-        while (x.told(10) < 6) {
+        for (int k = 1; k < 6; k++) {
             x.root(2, 12);
         }
         return x;
@@ -93,7 +90,7 @@ public final class RefusalsTest {
 
     private static HedgeWar withFullBook() {
         HedgeWar x = busy();
-        while (x.told(11) < 15) {
+        for (int k = 2; k < 15; k++) {
             x.write(8, 1);
         }
         return x;

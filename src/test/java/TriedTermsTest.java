@@ -467,6 +467,7 @@ public final class TriedTermsTest {
     private static void lookAtLeast() {
         CHECK.says("3: LOOK AT: of like ones the least");
         due("all alike", Check.told("g5 5 0;").lookAt(), 0);
+        due("a hedge there or not", Check.told("g2 2 0;h0 1 9;").lookAt(), 0);
         due("0 is worse", Check.told("g2 2 0;s0 9;s1 9;").lookAt(), 1);
         // All edges grow by 6 but for the last, which grows by 5.
         due("the last is best", Check.told("g2 2 9;s1 7;s3 7;").lookAt(), 3);
