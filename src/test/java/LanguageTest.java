@@ -22,10 +22,19 @@ public final class LanguageTest {
     private static final String[] RULED_OUT = {"throw", "throws", "try", "catch", "synchronized", "assert", "import",
         "package", "protected", "hashCode", "System\\s*\\.\\s*out", "Exact", "->", "::", "\"", "null"};
 
+    /** What the class uses of the library; LANGUAGE.md leaves more. */
+    private static final Set<String> LIBRARY = Set.of("Integer.bitCount", "Long.bitCount", "Math.max", "Math.min",
+        "System.arraycopy");
+    private static final int MOST_LINES = 60;
+
     public static void main(String[] args) throws IOException {
         face();
         insideClasses();
-        source();
+        String text = Files.readString(Path.of("src/main/java/HedgeWar.java"), StandardCharsets.US_ASCII);
+        String code = text.replaceAll("(?s)/\\*.*?\\*/", " ").replaceAll("//[^\n]*", " ");
+        ruledOut(code);
+        library(code);
+        bodies(text);
         CHECK.end();
     }
 
@@ -87,13 +96,47 @@ public final class LanguageTest {
         }
     }
 
-    private static void source() throws IOException {
-        String text = Files.readString(Path.of("src/main/java/HedgeWar.java"), StandardCharsets.US_ASCII);
-        String code = text.replaceAll("(?s)/\\*.*?\\*/", " ").replaceAll("//[^\n]*", " ");
+    private static void ruledOut(String code) {
         for (String word : RULED_OUT) {
             boolean letters = Character.isLetter(word.charAt(0));
             Matcher found = Pattern.compile(letters ? "\\b" + word + "\\b" : word).matcher(code);
             dueIs("no " + word + " in the source", !found.find());
         }
+        dueIs("no loop without an end", !Pattern.compile("while \\(true\\)|for \\([^;]*; *;").matcher(code).find());
+    }
+
+    private static void library(String code) {
+        Set<String> own = new HashSet<>();
+        own.add("HedgeWar");
+        for (Class<?> kind : HedgeWar.class.getDeclaredClasses()) {
+            own.add(kind.getSimpleName());
+        }
+        // A name with a small letter in it that begins with a great one is a class.
+        Matcher name = Pattern.compile("\\b([A-Z]\\w*[a-z]\\w*)(\\.\\w+)?").matcher(code);
+        while (name.find()) {
+            dueIs(name.group() + " may be used", own.contains(name.group(1)) || LIBRARY.contains(name.group()));
+        }
+    }
+
+    /** Methods are short, and none but a constructor makes an object: all calls of a run live in one room. */
+    private static void bodies(String text) {
+        String[] lines = text.split("\n");
+        Pattern head = Pattern.compile("( {4}| {8})(?:\\w+ )*?(\\w+ )?(\\w+)\\([^;]*\\) \\{");
+        int methods = 0;
+        for (int k = 0; k < lines.length; k++) {
+            Matcher found = head.matcher(lines[k]);
+            if (!found.matches() || Set.of("for", "while", "if", "switch").contains(found.group(3))) {
+                continue;
+            }
+            methods++;
+            boolean constructor = Character.isUpperCase(found.group(3).charAt(0));
+            int end = k;
+            while (end < lines.length && !lines[end].equals(found.group(1) + "}")) {
+                dueIs(lines[end] + " makes no object", constructor || !lines[end].matches(".*\\bnew\\b.*"));
+                end++;
+            }
+            dueIs(found.group(3) + " is short", end - k < MOST_LINES);
+        }
+        dueIs("all methods are found, " + methods, methods >= HedgeWar.class.getDeclaredMethods().length + 2);
     }
 }

@@ -1,4 +1,5 @@
 import java.util.Random;
+import java.util.TreeSet;
 
 /** Long runs of drawn calls on the class and on the plain model side by side. */
 public final class ModelTest {
@@ -45,7 +46,7 @@ public final class ModelTest {
     }
 
     private void run() {
-        tellNew(goodText());
+        tellNew(upTo(2) == 0 ? goodText() : ringText());
         while (calls < CALLS - 40) {
             String text = upTo(2) == 0 ? spoilt(goodText()) : goodText();
             if (upTo(100) == 0 && text.length() < CALLS - 40 - calls) {
@@ -114,6 +115,29 @@ public final class ModelTest {
             }
         }
         return text.length() > 240 ? text.substring(0, 240) : text.toString();
+    }
+
+    /** Hedges round a few inner fields, one or two left out or the other estate's: most of what is asked is near. */
+    private String ringText() {
+        int w = 3 + upTo(3), h = 3 + upTo(3), estate = upTo(2), soil = upTo(10), age = 1 + upTo(8);
+        TreeSet<Integer> inside = new TreeSet<>();
+        int x0 = 1 + upTo(w - 2), y0 = 1 + upTo(h - 2);
+        for (int k = 1 + upTo(3); k > 0; k--) {
+            inside.add(y0 * w + x0);
+            x0 = Math.max(1, Math.min(w - 2, x0 + upTo(3) - 1));
+            y0 = Math.max(1, Math.min(h - 2, y0 + upTo(3) - 1));
+        }
+        int[] fields = inside.stream().mapToInt(Integer::intValue).toArray();
+        StringBuilder text = new StringBuilder("g" + w + " " + h + " " + soil + ";");
+        for (int f : fields) {
+            text.append(upTo(2) == 0 ? "e" + f + ";" : "");
+        }
+        for (String clause : Check.hedgesRound(w, h, estate, age, fields).split(";")) {
+            int fate = upTo(16);
+            String other = clause.replace(" " + estate + " ", " " + (1 - estate) + " ");
+            text.append(fate == 0 ? "" : fate == 1 ? other + ";" : clause + ";");
+        }
+        return text.toString();
     }
 
     private String spoilt(String text) {

@@ -27,6 +27,7 @@ public final class TriedTermsTest {
         decidesEach();
         decidesRising();
         decidesByWhom();
+        decidesWhatIsShutIn();
         tallIn();
         walk();
         turnsYears();
@@ -311,6 +312,25 @@ public final class TriedTermsTest {
             own.gate(3, true);
             due("the gate's hedge is another's", own.decides(4, NONE), 0);
         }
+    }
+
+    /** The document leaves room here; this is how it was taken (NOTES.md). */
+    private static void decidesWhatIsShutIn() {
+        CHECK.says("3: DECIDES: each, not open, would make a FIELD's LAND SHUT IN (it is already)");
+        HedgeWar x = Check.told(ringed(1, 3) + "h0 0 3;h11 1 2;");
+        due("no gate is open", x.decides(4, NONE), 0);
+        x.gate(0, true);
+        x.gate(11, true);
+        due("with gate 0 not open, 4 is shut in; 11 is not tall", x.decides(4, NONE), 1);
+        due("which", x.decides(4, 0), 0);
+        HedgeWar inner = Check.told(WIDE + "h5 0 9;" + Check.hedgesRound(5, 3, 1, 9, 6, 7));
+        inner.gate(5, true);
+        due("both are shut in", inner.field(6, 3), 1);
+        due("it would part them by another's hedge", inner.decides(6, NONE), 0);
+        HedgeWar own = Check.told(WIDE + "h5 1 9;" + Check.hedgesRound(5, 3, 1, 9, 6, 7));
+        own.gate(5, true);
+        due("it would part them", own.decides(6, NONE), 1);
+        due("which", own.decides(6, 0), 5);
     }
 
     private static void tallIn() {
